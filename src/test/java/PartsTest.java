@@ -48,6 +48,10 @@ public final class PartsTest {
             + "public static final int EMPTY, public static final int TAMPERED]";
         Due.is("members " + members, members.toString().equals(want), true);
         Due.is("final", Modifier.isFinal(SharedMachine.class.getModifiers()), true);
+        Due.is("BAD_SLOT", SharedMachine.BAD_SLOT, -1);
+        Due.is("EMPTY", SharedMachine.EMPTY, -2);
+        Due.is("TAMPERED", SharedMachine.TAMPERED, -3);
+        Due.is("BAD_PARTY", SharedMachine.BAD_PARTY, -4);
     }
 
     private static void partsAddUp() throws ReflectiveOperationException {

@@ -10,6 +10,16 @@ public final class Due {
         part = name;
     }
 
+    /** A call that throws fails its own part alone: those behind it are still run. */
+    public static void run(Runnable tests) {
+        try {
+            tests.run();
+        } catch (RuntimeException thrown) {
+            wrong++;
+            System.out.println(part + ": a call threw " + thrown);
+        }
+    }
+
     public static void is(String call, long got, long want) {
         if (got != want) {
             wrong++;
