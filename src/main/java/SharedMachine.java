@@ -103,8 +103,7 @@ public final class SharedMachine {
     public int refresh(int slot) {
         int refusal = refusalOf(slot, slot, slot);
         if (refusal == DONE) {
-            int sum = sumOfParts(slot);
-            split(slot, sum);
+            splitAnew(slot);
         }
         return refusal;
     }
@@ -114,11 +113,7 @@ public final class SharedMachine {
             return BAD_SLOT;
         }
         int answer = held[slot] ? 1 : 0;
-        held[slot] = false;
-        errors[slot] = 0;
-        for (int party = 0; party < PARTIES; party++) {
-            parts[slot * PARTIES + party] = 0;
-        }
+        makeEmpty(slot);
         return answer;
     }
 
@@ -176,21 +171,28 @@ public final class SharedMachine {
         return errors[a] == 0 && errors[b] == 0 ? DONE : TAMPERED;
     }
 
-    private void fill(int slot, int x) {
-        split(slot, x);
+    private void makeEmpty(int slot) {
+        held[slot] = false;
         errors[slot] = 0;
+        for (int party = 0; party < PARTIES; party++) {
+            parts[slot * PARTIES + party] = 0;
+        }
+    }
+
+    private void fill(int slot, int x) {
+        makeEmpty(slot);
+        changePart(0, slot, x);
+        splitAnew(slot);
         held[slot] = true;
     }
 
-    /** Two parts come from the source alone; the third makes the sum right. */
-    private void split(int slot, int sum) {
-        int rest = reduced(sum);
+    /** What two parts get from the source is taken off the first, so that the sum stays. */
+    private void splitAnew(int slot) {
         for (int party = 1; party < PARTIES; party++) {
-            int part = nextPart();
-            parts[slot * PARTIES + party] = part;
-            rest -= part;
+            int moved = nextPart();
+            changePart(party, slot, moved);
+            changePart(0, slot, -moved);
         }
-        parts[slot * PARTIES] = reduced(rest);
     }
 
     private int nextPart() {
@@ -218,6 +220,9 @@ public final class SharedMachine {
         }
         errors[to] = reduced(factorA * errors[a] + factorB * errors[b]);
         held[to] = true;
+        // Else the parts of a slot less itself, or of 0 times a slot, would all be 0:
+        // one of them would tell the number.
+        splitAnew(to);
     }
 
     private void changePart(int party, int slot, int x) {

@@ -75,25 +75,45 @@ public final class PartsTest {
         Due.is("part 2 after party 2's change", after[2], (before[2] + 4) % 251);
     }
 
-    /** Over many seeds each part takes every value about as often, whatever the number is. */
+    /** Over many seeds each part takes every value about as often, whatever the number and the call that made it. */
     private static void onePartSaysNothing() throws ReflectiveOperationException {
-        Due.begin("one part");
         int[] numbers = {0, 1, 250};
         for (int number : numbers) {
-            int[] counts = new int[3 * 251];
-            for (int seed = 0; seed < SEEDS; seed++) {
-                SharedMachine x = new SharedMachine(seed * 7919);
-                x.put(0, number);
-                int[] parts = partsOf(x, 0);
-                for (int party = 0; party < 3; party++) {
-                    counts[party * 251 + parts[party]]++;
-                }
+            Due.begin("one part, where slot 1 held " + number);
+            evenParts(number, "put", 0, number);
+            evenParts(number, "add", 0, 1, 1);
+            evenParts(number, "add", 0, 1, 2);
+            evenParts(number, "subtract", 0, 1, 2);
+            evenParts(number, "subtract", 0, 1, 1);
+            evenParts(number, "scale", 0, 1, 2);
+            evenParts(number, "scale", 0, 1, 0);
+            evenParts(number, "scale", 0, 1, 251);
+            evenParts(number, "shift", 0, 1, 1);
+            evenParts(number, "multiply", 0, 1, 2);
+            evenParts(number, "power", 0, 1, 3);
+            evenParts(number, "power", 0, 1, 0);
+            evenParts(number, "change", 0, 1, 5);
+            evenParts(number, "refresh", 1);
+        }
+    }
+
+    private static void evenParts(int number, String call, int... given) throws ReflectiveOperationException {
+        int slot = call.equals("change") ? given[1] : given[0];
+        int[] counts = new int[3 * 251];
+        for (int seed = 0; seed < SEEDS; seed++) {
+            SharedMachine x = new SharedMachine(seed * 7919);
+            x.put(1, number);
+            x.put(2, 77);
+            Known.make(x, call, given);
+            int[] parts = partsOf(x, slot);
+            for (int party = 0; party < 3; party++) {
+                counts[party * 251 + parts[party]]++;
             }
-            for (int i = 0; i < counts.length; i++) {
-                boolean even = counts[i] > SEEDS / 251 / 3 && counts[i] < SEEDS / 251 * 3;
-                Due.is("number " + number + ", party " + i / 251 + " has part " + i % 251 + " "
-                    + counts[i] + " times", even, true);
-            }
+        }
+        for (int i = 0; i < counts.length; i++) {
+            boolean even = counts[i] > SEEDS / 251 / 3 && counts[i] < SEEDS / 251 * 3;
+            Due.is(Known.text(call, given) + ": party " + i / 251 + " has part " + i % 251 + " "
+                + counts[i] + " times", even, true);
         }
     }
 

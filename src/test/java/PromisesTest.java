@@ -521,7 +521,12 @@ public final class PromisesTest {
         Known.fills(221, 1, "change", 0, 4, 6);
         Known.fills(221, 245, "change", 0, 4, 250);
         Due.begin("Promise 15: in THE NUMBER SHOWN \"and\" stands for the sum (modulo 251)");
-        // What would be shown is nowhere told: neither by open nor by same.
+        // With an error of 0, at once or again, it is the number itself.
+        Known.keeps(200, "open", 0);
+        Known.keeps(250, "open", 11);
+        Known.fills(250, 0, "change", 2, 7, 250);
+        Known.fills(30, 0, "change", 0, 2, -5);
+        // With any other it is nowhere told: neither by open nor by same.
         Known.keeps(TAMPERED, "open", 7);
         Known.keeps(0, "same", 7, 3);
         Known.keeps(0, "same", 10, 2);
